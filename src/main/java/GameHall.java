@@ -159,7 +159,7 @@ public final class GameHall {
         if (depth < 0 || depth > shortDepth()) {
             throw new IllegalArgumentException();
         }
-        return search.lines(game, depth, 0);
+        return search.lines(game, depth);
     }
 
     private int shortDepth() {
@@ -1374,8 +1374,12 @@ public final class GameHall {
             moves = new int[(LOOK_MOST + 1) * LIST_ROOM];
         }
 
-        /** How many lines there are; ahead tells how many half moves are made already. */
-        long lines(Game game, int depth, int ahead) {
+        long lines(Game game, int depth) {
+            return linesBelow(game, moves, depth, 0);
+        }
+
+        /** How many lines go on from here; ahead tells how many half moves are made already. */
+        private static long linesBelow(Game game, int[] moves, int depth, int ahead) {
             if (depth <= 0 || ahead >= LOOK_MOST) {
                 return 1L;
             }
@@ -1387,7 +1391,7 @@ public final class GameHall {
             long found = 0L;
             for (int k = row; k < row + many; k++) {
                 game.board.make(moves[k]);
-                found += lines(game, depth - 1, ahead + 1);
+                found += linesBelow(game, moves, depth - 1, ahead + 1);
                 game.board.unmake(moves[k]);
             }
             return found;
@@ -1397,13 +1401,13 @@ public final class GameHall {
         void look(Game game, int depth) {
             best = NONE;
             if (depth == 0 || game.many == 0) {
-                value = valueOf(game, 0, 0, -BEYOND, BEYOND);
+                value = valueBelow(game, moves, 0, 0, -BEYOND, BEYOND);
                 return;
             }
             value = -BEYOND;
             for (int k = 0; k < game.many; k++) {
                 game.board.make(game.list[k]);
-                int worth = -valueOf(game, depth - 1, 1, -BEYOND, -value);
+                int worth = -valueBelow(game, moves, depth - 1, 1, -BEYOND, -value);
                 game.board.unmake(game.list[k]);
                 if (worth > value) {
                     value = worth;
@@ -1413,24 +1417,25 @@ public final class GameHall {
         }
 
         /**
-         * The value between two bounds, beyond which only that it is beyond matters. That a mate loses 1
-         * on each step back is the same as counting it less by the half moves ahead of it.
+         * The value, if it is above the least and below the most, else a number that is likewise not. That a mate
+         * loses 1 on each step back is the same as counting it less by the half moves ahead of it.
          */
-        private int valueOf(Game game, int depth, int ahead, int least, int most) {
-            boolean leaf = depth <= 0 || ahead >= LOOK_MOST;
+        private static int valueBelow(Game game, int[] moves, int depth, int ahead, int least, int most) {
+            boolean last = depth <= 0 || ahead >= LOOK_MOST;
             int row = ahead * LIST_ROOM;
-            int many = game.lister.fill(moves, row, leaf ? 1 : LIST_ROOM);
+            int many = game.lister.fill(moves, row, last ? 1 : LIST_ROOM);
             if (many == 0) {
                 return game.board.inCheck() ? ahead - MATE : 0;
             }
-            if (leaf) {
+            if (last) {
                 return game.board.side == 0 ? game.board.balance : -game.board.balance;
             }
             int greatest = least;
             for (int k = row; k < row + many && greatest < most; k++) {
                 game.board.make(moves[k]);
-                greatest = Math.max(greatest, -valueOf(game, depth - 1, ahead + 1, -most, -greatest));
+                int worth = -valueBelow(game, moves, depth - 1, ahead + 1, -most, -greatest);
                 game.board.unmake(moves[k]);
+                greatest = Math.max(greatest, worth);
             }
             return greatest;
         }
@@ -1484,10 +1489,14 @@ public final class GameHall {
                 start(slot);
             }
             // a pawn's mates can wait for those of what it becomes
-            int awaited = queen == null || rook == null ? 0 : Math.max(queen.longest, rook.longest) + 1;
+            boolean becomes = queen != null && rook != null;
+            int awaited = becomes ? Math.max(queen.longest, rook.longest) + 1 : 0;
             int quiet = 0;
             for (int n = 1; n < FAR && (quiet < 2 || n <= awaited); n++) {
                 boolean grown = n % 2 == 1 ? stepStrong(n) : stepWeak(n);
+                if (becomes && n % 2 == 1) {
+                    grown |= stepBecoming(n);
+                }
                 quiet = grown ? 0 : quiet + 1;
                 longest = grown ? n : longest;
             }
@@ -1529,53 +1538,39 @@ public final class GameHall {
         private boolean stepStrong(int n) {
             boolean grown = false;
             for (int slot = 0; slot < SLOTS; slot++) {
-                if (fresh[slot] != 0L) {
-                    grown |= winByKing(slot, n);
-                    grown |= kind == PAWN ? winByPawn(slot, n) : winByMan(slot, n);
+                if (fresh[slot] == 0L) {
+                    continue;
+                }
+                int man = slot / 64;
+                int king = slot % 64;
+                long kings = compass.king[king] & ~(1L << man);
+                for (int k = Long.bitCount(kings); k > 0; k--) {
+                    grown |= win(man * 64 + Board.lowest(kings), fresh[slot], n);
+                    kings &= kings - 1L;
+                }
+                // a pawn cannot go over the king alone; for other men it would be attacked already
+                long lost = kind == PAWN ? fresh[slot] & ~(1L << man - 8) : fresh[slot];
+                long men = cameFrom(man, king);
+                for (int k = Long.bitCount(men); k > 0; k--) {
+                    grown |= win(Board.lowest(men) * 64 + king, lost, n);
+                    men &= men - 1L;
                 }
             }
-            return grown | (kind == PAWN && winByBecoming(n));
-        }
-
-        private boolean winByKing(int slot, int n) {
-            int man = slot / 64;
-            long before = compass.king[slot % 64] & ~(1L << man);
-            boolean grown = false;
-            for (int k = Long.bitCount(before); k > 0; k--) {
-                grown |= win(man * 64 + Board.lowest(before), fresh[slot], n);
-                before &= before - 1L;
-            }
             return grown;
         }
 
-        private boolean winByMan(int slot, int n) {
-            int king = slot % 64;
-            long before = hits[slot] & ~(1L << king);
-            boolean grown = false;
-            for (int k = Long.bitCount(before); k > 0; k--) {
-                grown |= win(Board.lowest(before) * 64 + king, fresh[slot], n);
-                before &= before - 1L;
+        /** Where the man can have been ahead of its move. */
+        private long cameFrom(int man, int king) {
+            long free = ~(1L << king);
+            if (kind != PAWN) {
+                return hits[man * 64 + king] & free;
             }
-            return grown;
+            long one = (1L << man) >>> 8 & free & ~LAST_RANKS;
+            return man / 8 == 3 ? one | one >>> 8 : one;
         }
 
-        private boolean winByPawn(int slot, int n) {
-            int man = slot / 64;
-            int passed = man - 8;
-            if (passed < 8) {
-                return false;
-            }
-            boolean grown = win(slot - 512, fresh[slot], n);
-            if (man / 8 == 3 && passed != slot % 64) {
-                grown |= win(slot - 1024, fresh[slot] & ~(1L << passed), n);
-            }
-            return grown;
-        }
-
-        private boolean winByBecoming(int n) {
-            if (queen == null || rook == null) {
-                return false;
-            }
+        /** A pawn on its seventh rank wins by what it becomes. */
+        private boolean stepBecoming(int n) {
             boolean grown = false;
             for (int slot = 48 * 64; slot < 56 * 64; slot++) {
                 grown |= win(slot, queen.lostIn(slot + 512, n - 1) | rook.lostIn(slot + 512, n - 1), n);
@@ -1646,12 +1641,12 @@ public final class GameHall {
     /** The endings that have been asked for; what takes long to build is built once, when it is needed. */
     private static final class Endings {
         private final Compass compass;
-        private Ending queen;
-        private Ending rook;
-        private Ending pawn;
+        /** By the kind of the man; null if it has not been built. */
+        private final Ending[] built;
 
         Endings(Compass compass) {
             this.compass = compass;
+            built = new Ending[KING];
         }
 
         int distance(Board board) {
@@ -1660,52 +1655,28 @@ public final class GameHall {
             }
             int strong = Long.bitCount(board.camp[0]) == 2 ? 0 : 1;
             int man = Board.lowest(board.camp[strong] & ~board.sets[KING + BLACK * strong]);
-            Ending ending = ending(board.men[man] - BLACK * strong);
-            if (ending == null) {
+            int kind = board.men[man] - BLACK * strong;
+            if (kind == KNIGHT || kind == BISHOP) {
+                // neither ever mates alone
                 return NONE;
             }
+            if (kind == PAWN) {
+                prepare(QUEEN);
+                prepare(ROOK);
+            }
+            prepare(kind);
             // black's boards are turned over, so that its pawn goes up
             int turn = strong == 0 ? 0 : 56;
             int slot = (man ^ turn) * 64 + (board.kingOf(strong) ^ turn);
-            return ending.read(slot, board.kingOf(1 - strong) ^ turn, board.side == strong);
+            return built[kind].read(slot, board.kingOf(1 - strong) ^ turn, board.side == strong);
         }
 
-        /** Null for a bishop or a knight, which never mate alone. */
-        private Ending ending(int kind) {
-            switch (kind) {
-                case QUEEN:
-                    return queenEnding();
-                case ROOK:
-                    return rookEnding();
-                case PAWN:
-                    return pawnEnding();
-                default:
-                    return null;
+        private void prepare(int kind) {
+            if (built[kind] == null) {
+                boolean becomes = kind == PAWN;
+                built[kind] = new Ending(compass, kind, becomes ? built[QUEEN] : null, becomes ? built[ROOK] : null);
+                built[kind].build();
             }
-        }
-
-        private Ending queenEnding() {
-            if (queen == null) {
-                queen = new Ending(compass, QUEEN, null, null);
-                queen.build();
-            }
-            return queen;
-        }
-
-        private Ending rookEnding() {
-            if (rook == null) {
-                rook = new Ending(compass, ROOK, null, null);
-                rook.build();
-            }
-            return rook;
-        }
-
-        private Ending pawnEnding() {
-            if (pawn == null) {
-                pawn = new Ending(compass, PAWN, queenEnding(), rookEnding());
-                pawn.build();
-            }
-            return pawn;
         }
 
         /** The place of the first move that makes the distance 1 less, or NONE. */
