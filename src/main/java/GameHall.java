@@ -1239,7 +1239,7 @@ public final class GameHall {
             return sign;
         }
 
-        /** The place of the move that a word spells, its sign apart; -22 or -23 if none is meant, or none is spelled so. */
+        /** The place of the move that a word spells, its sign apart; or -22: none is meant, -23: none is spelled so. */
         int choose(Game game, Word word) {
             boolean meant = false;
             for (int k = 0; k < game.many; k++) {

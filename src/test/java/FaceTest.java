@@ -77,7 +77,8 @@ public final class FaceTest {
             for (Field field : inner.getDeclaredFields()) {
                 boolean constant = Modifier.isStatic(field.getModifiers());
                 fields += constant ? 0 : 1;
-                Check.due(field + ": what is static is final", !constant || Modifier.isFinal(field.getModifiers()), true);
+                boolean fixed = Modifier.isFinal(field.getModifiers());
+                Check.due(field + ": what is static is final", !constant || fixed, true);
             }
             Check.due(inner + " has not more than twenty fields", fields <= 20, true);
             for (Method method : inner.getDeclaredMethods()) {

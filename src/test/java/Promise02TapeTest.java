@@ -33,9 +33,8 @@ public final class Promise02TapeTest {
         Check.due("bytes", hall.status(0), 20);
     }
 
-    /** The whole of a full tape is read: its last word is a move that the game takes. */
+    /** A full tape, with all but the last byte of blanks behind the record: they are read as moves that are nothing. */
     private static void allBytes() {
-        // each man comes to four squares in turn, a1 .. d1 or so, and then the corner changes: no position comes 5 times
         GameHall hall = new GameHall(1);
         StringBuilder text = new StringBuilder(Texts.START);
         while (text.length() < 8179) {

@@ -4,6 +4,7 @@ public final class Promise03SubmitTest {
 
     public static void main(String[] args) {
         lengths();
+        bytesBehind();
         rightTexts();
         fields();
         menField();
@@ -61,6 +62,29 @@ public final class Promise03SubmitTest {
             Check.due("fault of " + text, one.status(1), pawn ? 8 : 0);
             Check.due("record", Check.record(one), pawn ? "" : text);
         }
+    }
+
+    /** The bytes behind the text are not read, whatever they are. */
+    private static void bytesBehind() {
+        String text = KINGS + " w - - 0 1";
+        String[] behind = {"2", " ", " e4", "x", "/"};
+        for (String more : behind) {
+            tapeBoth(text, more, 0, 0);
+            tapeBoth(text + " Ke", more, 20, -1);
+            tapeBoth("4k3/8/8/8/8/8/P7/4K3 w - - 0 1 a", more.replace("x", "3"), 21, -1);
+            tapeBoth("4k3/8/8/8/8/8/P7/4K3 w - - 0 1 a3", more.replace("x", "+"), 0, 1);
+            tapeBoth("4k3/8/8/8/8/8/P7/4K3 w - - ", more.replace("x", "0 1"), 5, -1);
+        }
+    }
+
+    private static void tapeBoth(String text, String more, int fault, int due) {
+        GameHall hall = new GameHall(0);
+        for (int at = 0; at < text.length(); at += 20) {
+            int[] n = Check.numbers(text + more + more + more, at);
+            hall.tape(n[0], n[1], n[2], n[3], n[4]);
+        }
+        Check.due("submit of " + text + " with " + more + " behind", hall.submit(Check.tail(text)), due);
+        Check.due("fault of " + text + " with " + more + " behind", hall.status(1), fault);
     }
 
     private static void rightTexts() {
@@ -223,11 +247,12 @@ public final class Promise03SubmitTest {
             "Ng1xf3++", "nf3", "Nf3~", "Nf3\n", "e4.", "1.e4", "Qa1xb2+#", "aaaaaaaaaaaaaaaaaaaaaaa"}) {
             fault(Texts.START + " " + word, 21, 0);
         }
-        for (String word : new String[] {"e5", "exd5", "e8Q", "e4Q", "Nf4", "Nd2", "Ke2", "0-0", "0-0-0", "0-0+", "Qa1xb2#",
-            "Nb1xd2", "Bb5+", "exd3N#", "Ra3", "K1xe2"}) {
+        for (String word : new String[] {"e5", "exd5", "e8Q", "e4Q", "Nf4", "Nd2", "Ke2", "0-0", "0-0-0",
+            "0-0+", "Qa1xb2#", "Nb1xd2", "Bb5+", "exd3N#", "Ra3", "K1xe2"}) {
             fault(Texts.START + " " + word, 22, 0);
         }
-        for (String word : new String[] {"exd3", "Ngf3", "N1f3", "Ng1f3", "Nxf3", "Ngxf3", "dxe4", "exe4", "Ng1xf3+", "Nbf3"}) {
+        for (String word : new String[] {"exd3", "Ngf3", "N1f3", "Ng1f3", "Nxf3", "Ngxf3", "dxe4", "exe4",
+            "Ng1xf3+", "Nbf3"}) {
             fault(Texts.START + " " + word, 23, 0);
         }
         for (String word : new String[] {"e4+", "e4#", "Nf3+", "Nf3#"}) {

@@ -83,6 +83,8 @@ public final class Promise04ProceedTest {
         GameHall hall = Check.hall(LongGame.text(599));
         Check.due("the 600th", hall.proceed(0) >= 0, true);
         Check.due("positions", hall.status(3), 601);
+        Check.due("one can look ahead there", hall.linesTo(2) > 0 && hall.bestAt(2) >= 0 && hall.spelling(0) != 0, true);
+        Check.due("record", Check.record(hall).equals(Texts.START), false);
         Check.dueThrow("the 601st", IllegalStateException.class, () -> hall.proceed(0));
         Check.dueThrow("the 601st, no place", IllegalStateException.class, () -> hall.proceed(-1));
         Check.due("retreat", hall.retreat(), true);
@@ -116,6 +118,12 @@ public final class Promise04ProceedTest {
         GameHall edge = Check.hall("4k3/8/8/7p/7p/8/P7/4K3 w - - 3 1");
         go(edge, "a4");
         Check.due("the h file is not beside the a file", Check.record(edge), "4k3/8/8/7p/P6p/8/8/4K3 b - - 0 1");
+        GameHall corner = Check.hall("4k3/8/8/8/8/7p/P7/4K3 w - - 3 1");
+        go(corner, "a4");
+        Check.due("nor is it a rank below", Check.record(corner), "4k3/8/8/8/P7/7p/8/4K3 b - - 0 1");
+        GameHall wall = Check.hall("4k3/8/8/p7/8/8/7P/4K3 w - - 3 1");
+        go(wall, "h4");
+        Check.due("nor the a file beside the h file", Check.record(wall), "4k3/8/8/p7/7P/8/8/4K3 b - - 0 1");
         GameHall one = Check.hall("4k3/8/8/8/8/3pP3/8/4K3 w - - 3 1");
         go(one, "e4");
         Check.due("one rank only", Check.record(one), "4k3/8/8/8/4P3/3p4/8/4K3 b - - 0 1");

@@ -47,6 +47,14 @@ public final class Promise08SpellingTest {
         for (String word : "Qad1 Q4d1 Qd4d1 Qd1 Qa4d7 Q4d7 Qa3".split(" ")) {
             has(queens, word, false);
         }
+        // the same in the other corner
+        String turned = "1k5q/8/8/4q2q/8/8/8/1K6 b - - 0 1";
+        for (String word : "Qh5e8 Q8e8 Qee8 Qhe2 Qee2 Q5h6 Q8h6 Qf7 Qb2#".split(" ")) {
+            has(turned, word, true);
+        }
+        for (String word : "Qhe8 Q5e8 Qe5e8 Qh8e8 Qe8 Q5e2".split(" ")) {
+            has(turned, word, false);
+        }
         all("k7/8/8/8/8/8/8/KN1N3q w - - 0 1", "Ka2 Kb2 Nd2 Na3 Nbc3 Nb2 Nf2 Ndc3 Ne3");
         // a rival that may not move is none: it would leave its king attacked
         has("4r2k/8/8/8/8/2N1N3/8/4K3 w - - 0 1", "Nd5", true);

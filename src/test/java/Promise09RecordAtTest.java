@@ -27,8 +27,8 @@ public final class Promise09RecordAtTest {
     }
 
     private static void roundTrips() {
-        for (String text : new String[] {Texts.START, Texts.MIXED, Texts.PINS, Texts.CHECKED, Texts.BECOMING, Texts.EVEN,
-            Texts.CROWD, "4k3/8/8/8/4P3/8/8/4K3 b - e3 0 1", "4k3/8/8/p7/8/8/8/4K3 w - a6 0 9999",
+        for (String text : new String[] {Texts.START, Texts.MIXED, Texts.PINS, Texts.CHECKED, Texts.BECOMING,
+            Texts.EVEN, Texts.CROWD, "4k3/8/8/8/4P3/8/8/4K3 b - e3 0 1", "4k3/8/8/p7/8/8/8/4K3 w - a6 0 9999",
             "4k3/8/8/8/8/8/8/4K2R b K - 999 1", "r3k3/8/8/8/8/8/8/4K3 b q - 10 100",
             "1k1n1n1r/p1p1p1p1/1p1p1p2/1P1P1P1P/P1P1P1P1/1N6/8/1K1R1B2 w - - 7 70"}) {
             GameHall hall = new GameHall(5);
@@ -38,12 +38,13 @@ public final class Promise09RecordAtTest {
     }
 
     private static void afterMoves() {
+        String passant = "rnbqkbnr/ppp1p1pp/8/3pPp2/8/8/PPPP1PPP/RNBQKBNR w KQkq f6 0 3";
         GameHall hall = Check.hall(Texts.START + " e4 d5 e5 f5");
-        Check.due("with a PASSANT", Check.record(hall), "rnbqkbnr/ppp1p1pp/8/3pPp2/8/8/PPPP1PPP/RNBQKBNR w KQkq f6 0 3");
+        Check.due("with a PASSANT", Check.record(hall), passant);
         hall.proceed(Check.place(hall, "exf6"));
         Check.due("without it", Check.record(hall), "rnbqkbnr/ppp1p1pp/5P2/3p4/8/8/PPPP1PPP/RNBQKBNR b KQkq - 0 3");
         hall.retreat();
-        Check.due("with it again", Check.record(hall), "rnbqkbnr/ppp1p1pp/8/3pPp2/8/8/PPPP1PPP/RNBQKBNR w KQkq f6 0 3");
+        Check.due("with it again", Check.record(hall), passant);
     }
 
     /** The number of a position can be more than a text may say. */

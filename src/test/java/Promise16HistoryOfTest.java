@@ -5,6 +5,7 @@ public final class Promise16HistoryOfTest {
         facts();
         passing();
         rightsMakeOthers();
+        otherMen();
         taken();
         longGame();
         wrongInputs();
@@ -74,6 +75,23 @@ public final class Promise16HistoryOfTest {
         // the other side to move makes another position too
         GameHall lost = Check.hall("4k3/8/8/8/8/8/8/R3K3 w - - 0 1 Ra2 Kd8 Ra3 Ke8 Ra1 Kd8 Ra2 Ke8");
         row(lost, 0, 1, 1, 1, 1, 1, 1, 1, 1, 1);
+    }
+
+    /** Two men of a side that have changed their squares make another position. */
+    private static void otherMen() {
+        others("7k/8/8/8/8/8/8/KRQ5 w - - 0 1 Rb3 Kg8 Qb1 Kh8 Rc3 Kg8 Rc1 Kh8");
+        others("krq5/8/8/8/8/8/8/7K b - - 0 1 Rb6 Kg1 Qb8 Kh1 Rc6 Kg1 Rc8 Kh1");
+        others("7k/8/8/8/8/3N4/8/KB6 w - - 0 1 Nb4 Kg8 Na2 Kh8 Nc3 Kg8 Bc2 Kh8 Bd3 Kg8 Nb1 Kh8");
+        others("kb6/8/3n4/8/8/8/8/7K b - - 0 1 Nb5 Kg1 Na7 Kh1 Nc6 Kg1 Bc7 Kh1 Bd6 Kg1 Nb8 Kh1");
+    }
+
+    /** All positions of the game are different. */
+    private static void others(String text) {
+        GameHall hall = Check.hall(text);
+        for (int i = 0; i < hall.status(3); i++) {
+            Check.due("historyOf " + i + " 6 of " + text, hall.historyOf(i, 6), i);
+            Check.due("historyOf " + i + " 0 of " + text, hall.historyOf(i, 0), 1);
+        }
     }
 
     /** A game that is taken after another one has nothing of it. */

@@ -69,6 +69,7 @@ public final class Promise17StatusTest {
         Check.due("men", taking.status(10), 29);
         taking.retreat();
         Check.due("men", taking.status(10), 30);
-        Check.due("verdict 8", Check.hall("4k3/8/8/8/8/8/R7/4K3 w - - 92 1" + " Ra3 Kd8 Ra2 Ke8".repeat(2)).status(4), 8);
+        GameHall both = Check.hall("4k3/8/8/8/8/8/R7/4K3 w - - 92 1" + " Ra3 Kd8 Ra2 Ke8".repeat(2));
+        Check.due("verdict 8", both.status(4), 8);
     }
 }
