@@ -701,15 +701,14 @@ public final class GameHall {
         /** The board's position is the first one. */
         void begin() {
             rows = 0;
-            append(NONE);
+            add(NONE);
         }
 
+        /** The position behind a move comes to the row; with NONE that of the board, as the first one. */
         void add(int move) {
-            board.make(move);
-            append(move);
-        }
-
-        private void append(int move) {
+            if (move != NONE) {
+                board.make(move);
+            }
             many = lister.fill(list, 0, LIST_ROOM);
             int row = rows;
             int at = row * FACTS;
@@ -1463,7 +1462,8 @@ public final class GameHall {
         /** ... where it has the move and a legal one, where it has the move and is lost, ... */
         private final long[] open;
         private final long[] weak;
-        /** ... where the strong side has the move and wins, ... */
+        /** ... where it can be with the strong side to move, where the strong side then wins, ... */
+        private final long[] apart;
         private final long[] strong;
         /** ... and what became lost by the latest step. */
         private final long[] fresh;
@@ -1479,6 +1479,7 @@ public final class GameHall {
             hits = new long[SLOTS];
             open = new long[SLOTS];
             weak = new long[SLOTS];
+            apart = new long[SLOTS];
             strong = new long[SLOTS];
             fresh = new long[SLOTS];
             digits = new long[2 * DIGITS * SLOTS];
@@ -1502,19 +1503,19 @@ public final class GameHall {
             }
         }
 
+        /** The positions of a slot, and which of them are mate; where there is no such slot all rows stay empty. */
         private void start(int slot) {
             int man = slot / 64;
             int king = slot % 64;
             if (man == king || kind == PAWN && (LAST_RANKS >>> man & 1L) != 0L) {
-                // no such position: wherever the king alone stood, the strong side could not be to move
-                hits[slot] = -1L;
                 return;
             }
             hits[slot] = hitsOf(man, 1L << king);
-            long apart = ~(compass.king[king] | 1L << king | 1L << man);
+            long legal = ~(compass.king[king] | 1L << king | 1L << man);
             long movable = spread(~(hits[slot] | compass.king[king]));
-            open[slot] = apart & movable;
-            weak[slot] = apart & hits[slot] & ~movable;
+            apart[slot] = legal & ~hits[slot];
+            open[slot] = legal & movable;
+            weak[slot] = legal & hits[slot] & ~movable;
             fresh[slot] = weak[slot];
         }
 
@@ -1545,14 +1546,14 @@ public final class GameHall {
                 int king = slot % 64;
                 long kings = compass.king[king] & ~(1L << man);
                 for (int k = Long.bitCount(kings); k > 0; k--) {
-                    grown |= win(man * 64 + Board.lowest(kings), fresh[slot], n);
+                    grown |= gain(man * 64 + Board.lowest(kings), fresh[slot], n) != 0L;
                     kings &= kings - 1L;
                 }
                 // a pawn cannot go over the king alone; for other men it would be attacked already
                 long lost = kind == PAWN ? fresh[slot] & ~(1L << man - 8) : fresh[slot];
                 long men = cameFrom(man, king);
                 for (int k = Long.bitCount(men); k > 0; k--) {
-                    grown |= win(Board.lowest(men) * 64 + king, lost, n);
+                    grown |= gain(Board.lowest(men) * 64 + king, lost, n) != 0L;
                     men &= men - 1L;
                 }
             }
@@ -1573,7 +1574,8 @@ public final class GameHall {
         private boolean stepBecoming(int n) {
             boolean grown = false;
             for (int slot = 48 * 64; slot < 56 * 64; slot++) {
-                grown |= win(slot, queen.lostIn(slot + 512, n - 1) | rook.lostIn(slot + 512, n - 1), n);
+                long lost = queen.lostIn(slot + 512, n - 1) | rook.lostIn(slot + 512, n - 1);
+                grown |= gain(slot, lost, n) != 0L;
             }
             return grown;
         }
@@ -1588,38 +1590,32 @@ public final class GameHall {
             return lost;
         }
 
-        /** Of these squares of the king alone those are won that can be, and are not yet: whether there are any. */
-        private boolean win(int slot, long squares, int n) {
-            int king = slot % 64;
-            long taken = hits[slot] | compass.king[king] | 1L << king | 1L << slot / 64;
-            long gained = squares & ~(taken | strong[slot]);
-            strong[slot] |= gained;
-            write(slot, gained, n);
-            return gained != 0L;
-        }
-
         /** Where all that the king alone can do is lost for it, it is lost in n half moves. */
         private boolean stepWeak(int n) {
             boolean grown = false;
             for (int slot = 0; slot < SLOTS; slot++) {
-                long gained = open[slot] & ~weak[slot];
-                if (gained != 0L) {
-                    gained &= ~spread(~(hits[slot] | compass.king[slot % 64] | strong[slot]));
-                    weak[slot] |= gained;
-                    write(slot, gained, n);
+                fresh[slot] = 0L;
+                if ((open[slot] & ~weak[slot]) != 0L) {
+                    long safe = ~(hits[slot] | compass.king[slot % 64] | strong[slot]);
+                    fresh[slot] = gain(slot, ~spread(safe), n);
+                    grown |= fresh[slot] != 0L;
                 }
-                fresh[slot] = gained;
-                grown |= gained != 0L;
             }
             return grown;
         }
 
-        private void write(int slot, long gained, int n) {
+        /** Those of the squares get the distance n that can have one, with the side to move, and have none yet. */
+        private long gain(int slot, long squares, int n) {
+            long[] can = n % 2 == 1 ? apart : open;
+            long[] have = n % 2 == 1 ? strong : weak;
+            long gained = squares & can[slot] & ~have[slot];
+            have[slot] |= gained;
             for (int d = 0; d < DIGITS && gained != 0L; d++) {
                 if ((n >> d + 1 & 1) != 0) {
                     digits[(n % 2 * DIGITS + d) * SLOTS + slot] |= gained;
                 }
             }
+            return gained;
         }
 
         /** The distance, or NONE. */

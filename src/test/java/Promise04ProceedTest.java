@@ -83,7 +83,8 @@ public final class Promise04ProceedTest {
         GameHall hall = Check.hall(LongGame.text(599));
         Check.due("the 600th", hall.proceed(0) >= 0, true);
         Check.due("positions", hall.status(3), 601);
-        Check.due("one can look ahead there", hall.linesTo(2) > 0 && hall.bestAt(2) >= 0 && hall.spelling(0) != 0, true);
+        boolean looks = hall.linesTo(2) > 0 && hall.bestAt(2) >= 0 && hall.spelling(0) != 0;
+        Check.due("one can look ahead there", looks, true);
         Check.due("record", Check.record(hall).equals(Texts.START), false);
         Check.dueThrow("the 601st", IllegalStateException.class, () -> hall.proceed(0));
         Check.dueThrow("the 601st, no place", IllegalStateException.class, () -> hall.proceed(-1));

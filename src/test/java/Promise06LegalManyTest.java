@@ -47,8 +47,11 @@ public final class Promise06LegalManyTest {
         many("4k3/8/8/2PpP3/8/8/8/4K3 w - d6 0 1", 9);
         // both pawns leave the rank of the king
         many("8/8/8/K2pP2r/8/8/8/4k3 w - d6 0 1", 6);
-        // the pawn taken has hidden the king, askew
-        many("4k3/8/8/b2pP3/8/8/8/4K3 w - - 0 1", 4);
+        // the pawn taken has hidden the king, askew, from a bishop; then from nothing
+        many("8/5K2/8/3pP3/8/8/b7/7k w - d6 0 1", 9);
+        many("8/5K2/8/3pP3/8/8/n7/7k w - d6 0 1", 10);
+        many("7K/B7/8/8/3Pp3/8/5k2/8 b - d3 0 1", 9);
+        many("7K/N7/8/8/3Pp3/8/5k2/8 b - d3 0 1", 10);
         // taking in passing is the answer to the check of the pawn
         many("7k/8/8/3pP3/4K3/8/8/8 w - d6 0 1", 8);
         // a PASSANT that no pawn can use
