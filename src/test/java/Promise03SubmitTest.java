@@ -85,6 +85,9 @@ public final class Promise03SubmitTest {
         }
         Check.due("submit of " + text + " with " + more + " behind", hall.submit(Check.tail(text)), due);
         Check.due("fault of " + text + " with " + more + " behind", hall.status(1), fault);
+        if (due == 0) {
+            Check.due("record with " + more + " behind", Check.record(hall), text);
+        }
     }
 
     private static void rightTexts() {

@@ -102,12 +102,16 @@ public final class Promise04ProceedTest {
         GameHall rooks = Check.hall("r3k2r/8/8/8/8/8/8/R3K2R w KQkq - 5 7");
         go(rooks, "Rxh8+");
         Check.due("two corners", Check.record(rooks), "r3k2R/8/8/8/8/8/8/R3K3 b Qq - 0 7");
-        GameHall rook = Check.hall("r3k2r/8/8/8/8/8/8/R3K2R b KQkq - 5 7");
-        go(rook, "Ra7");
-        Check.due("from a corner", Check.record(rook), "4k2r/r7/8/8/8/8/8/R3K2R w KQk - 6 8");
-        GameHall king = Check.hall("r3k2r/8/8/8/8/8/8/R3K2R b KQkq - 5 7");
-        go(king, "Ke7");
-        Check.due("the king", Check.record(king), "r6r/4k3/8/8/8/8/8/R3K2R w KQ - 6 8");
+        String[][] cases = {{"w", "Ra2", "r3k2r/8/8/8/8/8/R7/4K2R b Kkq - 6 7"},
+            {"w", "Rh2", "r3k2r/8/8/8/8/8/7R/R3K3 b Qkq - 6 7"}, {"w", "Ke2", "r3k2r/8/8/8/8/8/4K3/R6R b kq - 6 7"},
+            {"b", "Ra7", "4k2r/r7/8/8/8/8/8/R3K2R w KQk - 6 8"}, {"b", "Rh7", "r3k3/7r/8/8/8/8/8/R3K2R w KQq - 6 8"},
+            {"b", "Ke7", "r6r/4k3/8/8/8/8/8/R3K2R w KQ - 6 8"}, {"b", "Rxa1+", "4k2r/8/8/8/8/8/8/r3K2R w Kk - 0 8"},
+            {"b", "0-0", "r4rk1/8/8/8/8/8/8/R3K2R w KQ - 6 8"}, {"w", "0-0-0", "r3k2r/8/8/8/8/8/8/2KR3R b kq - 6 7"}};
+        for (String[] one : cases) {
+            GameHall home = Check.hall("r3k2r/8/8/8/8/8/8/R3K2R " + one[0] + " KQkq - 5 7");
+            go(home, one[1]);
+            Check.due("after " + one[1], Check.record(home), one[2]);
+        }
         GameHall beside = Check.hall("4k3/8/8/8/3p4/8/4P3/4K3 w - - 3 1");
         go(beside, "e4");
         Check.due("a pawn beside", Check.record(beside), "4k3/8/8/8/3pP3/8/8/4K3 b - e3 0 1");
