@@ -1099,9 +1099,19 @@ public final class GameHall {
             for (int k = start; k < end; k++) {
                 body = body << 8 | text[k];
             }
-            castle = body == SHORT_CASTLE ? 2 : body == LONG_CASTLE ? -2 : 0;
+            castle = readCastle(text, start, end);
             become = 0;
             return castle != 0 || end > start && (readMan(text, start, end) || readPawn(text, start, end));
+        }
+
+        /** Sign by sign, as the body can't tell bytes 0 ahead of a word from none. */
+        private static int readCastle(char[] text, int start, int end) {
+            for (int k = start; k < end; k++) {
+                if (text[k] != ((k - start) % 2 == 0 ? '0' : '-')) {
+                    return 0;
+                }
+            }
+            return end - start == 3 ? 2 : end - start == 5 ? -2 : 0;
         }
 
         private boolean readMan(char[] text, int start, int end) {

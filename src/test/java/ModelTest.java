@@ -342,7 +342,7 @@ public final class ModelTest {
         StringBuilder out = new StringBuilder(text);
         int at = chance(50) ? below(out.length()) : Math.max(0, out.length() - 1 - below(12));
         char sign = signs.charAt(below(signs.length()));
-        switch (below(7)) {
+        switch (below(9)) {
             case 0:
                 out.setCharAt(at, sign);
                 break;
@@ -357,6 +357,10 @@ public final class ModelTest {
                 break;
             case 4:
                 return chance(40) ? misspelled(text) : respelled(text);
+            case 5:
+                return oddlySpelled(chance(60) ? respelled(text) : text);
+            case 6:
+                return text + " " + scribble();
             default:
                 out.insert(at, sign);
                 break;
@@ -385,6 +389,27 @@ public final class ModelTest {
             default:
                 return ahead + (word.contains("x") ? word.replace("x", "") : word.charAt(0) + "x" + word.substring(1));
         }
+    }
+
+    /** Some bytes, often bytes 0, at the beginning of a word, inside it or at its end. */
+    private static String oddlySpelled(String text) {
+        String[] words = text.split(" ", -1);
+        int which = chance(70) ? words.length - 1 : below(words.length);
+        String word = words[which];
+        int at = chance(40) ? 0 : chance(40) ? word.length() : below(word.length() + 1);
+        String odd = ("" + (char) (chance(60) ? 0 : below(256))).repeat(1 + below(chance(80) ? 3 : 9));
+        words[which] = word.substring(0, at) + odd + word.substring(at);
+        return String.join(" ", words);
+    }
+
+    /** A word of signs that spellings have, and of bytes 0, in any order. */
+    private static String scribble() {
+        String signs = chance(50) ? "0-0-\0+#" : "KQRBNabh18x+#0-\0";
+        StringBuilder word = new StringBuilder();
+        for (int k = below(9); k > 0; k--) {
+            word.append(signs.charAt(below(signs.length())));
+        }
+        return word.toString();
     }
 
     /** A move behind that has the form, and is mostly wrong. */

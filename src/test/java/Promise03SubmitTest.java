@@ -11,6 +11,7 @@ public final class Promise03SubmitTest {
         rightness();
         passants();
         moves();
+        bytesInWords();
         spellings();
         castling();
         becoming();
@@ -268,6 +269,40 @@ public final class Promise03SubmitTest {
         fault(Texts.START + " e4 f5 Qh5#", 24, 2);
         fault(Texts.START + " e4 f5 Qh5+ a6", 22, 3);
         fault(Texts.START + " e4 f5 Qh5+ g6 Qxg6+ hxg6", 0);
+    }
+
+    /** Words of the form, with bytes 0 (or others that no spelling has) at their beginning, inside and at their end. */
+    private static void bytesInWords() {
+        String castling = "r3k2r/8/8/8/8/8/8/R3K2R w KQkq - 0 1";
+        String checking = "5k2/8/8/8/8/8/8/4K2R w K - 0 1";
+        String becoming = "1r6/P6k/8/8/8/8/8/K7 w - - 0 1";
+        odd(castling, "0-0", 0);
+        odd(castling, "0-0-0", 0);
+        odd(castling, "0-0+", 24);
+        odd(castling, "0-0-0#", 24);
+        odd(checking, "0-0+", 0);
+        odd(checking, "0-0-0", 22);
+        odd(castling, "Kd2", 0);
+        odd(castling, "Rxa8+", 0);
+        odd(castling, "Ra1xa8#", 23);
+        odd(Texts.START, "e4", 0);
+        odd(Texts.START, "exd3", 23);
+        odd(becoming, "axb8N", 0);
+        odd(becoming, "a8Q", 0);
+    }
+
+    /** The word alone has a fault of its own, or none; with odd bytes it has not the form. */
+    private static void odd(String record, String word, int alone) {
+        fault(record + " " + word, alone, alone == 0 ? -1 : 0);
+        String[] some = {"\0", "\0\0", "\0\0\0", "\0\0\0\0\0", "\0\0\0\0\0\0\0\0", "\1", "\t", "\n", "\u0080", "\u00ff"};
+        for (String bytes : some) {
+            for (int at = 0; at <= word.length(); at++) {
+                fault(record + " " + word.substring(0, at) + bytes + word.substring(at), 21, 0);
+            }
+        }
+        fault(record + " \0", 21, 0);
+        fault(record + " \0 " + word, 21, 0);
+        fault(record + "\0 " + word, 6);
     }
 
     private static void spellings() {
