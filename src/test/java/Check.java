@@ -89,6 +89,43 @@ final class Check {
         return hall;
     }
 
+    /** The fault of a text and the number of the move with it; 0 and NONE if the text is taken. */
+    static void fault(String text, int fault, int move) {
+        GameHall hall = new GameHall(2);
+        int many = submit(hall, text);
+        due("fault of " + text, hall.status(1), fault);
+        due("place in " + text, hall.status(2), move);
+        due("submit of " + text, many, fault == 0 ? text.split(" ").length - 6 : -1);
+        due("positions after " + text, hall.status(3), fault == 0 ? many + 1 : 0);
+        due("taken after " + text, hall.status(13), fault == 0 ? 1 : 0);
+    }
+
+    /** The fault of a text whose moves, if it has some, are of no matter here. */
+    static void fault(String text, int fault) {
+        fault(text, fault, -1);
+    }
+
+    /** All that can be asked of an object without looking ahead: two that answer alike are alike. */
+    static String state(GameHall hall) {
+        StringBuilder text = new StringBuilder();
+        for (int which = 0; which < 14; which++) {
+            text.append(hall.status(which)).append(' ');
+        }
+        text.append(record(hall)).append(" |");
+        int many = hall.legalMany();
+        for (int k = 0; k < many; k++) {
+            text.append(' ').append(hall.legalMove(k));
+        }
+        int rows = hall.status(3);
+        for (int i = 0; i < rows; i++) {
+            text.append(" |");
+            for (int w = 0; w < 8; w++) {
+                text.append(' ').append(hall.historyOf(i, w));
+            }
+        }
+        return text.toString();
+    }
+
     static String unpack(long packed) {
         StringBuilder text = new StringBuilder();
         for (int shift = 56; shift >= 0; shift -= 8) {
@@ -102,8 +139,10 @@ final class Check {
 
     static String record(GameHall hall) {
         StringBuilder text = new StringBuilder();
-        for (int k = 0; k < 16; k++) {
-            text.append(unpack(hall.recordAt(k)));
+        long part = hall.recordAt(0);
+        for (int k = 1; k < 16 && part != 0; k++) {
+            text.append(unpack(part));
+            part = hall.recordAt(k);
         }
         return text.toString();
     }
@@ -111,7 +150,8 @@ final class Check {
     /** All spellings, in the order of the LIST. */
     static String spellings(GameHall hall) {
         StringBuilder text = new StringBuilder();
-        for (int k = 0; k < hall.legalMany(); k++) {
+        int many = hall.legalMany();
+        for (int k = 0; k < many; k++) {
             text.append(k > 0 ? " " : "").append(unpack(hall.spelling(k)));
         }
         return text.toString();
@@ -119,7 +159,8 @@ final class Check {
 
     /** The place of a spelling in the LIST. */
     static int place(GameHall hall, String spelling) {
-        for (int k = 0; k < hall.legalMany(); k++) {
+        int many = hall.legalMany();
+        for (int k = 0; k < many; k++) {
             if (unpack(hall.spelling(k)).equals(spelling)) {
                 return k;
             }

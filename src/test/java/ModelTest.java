@@ -8,9 +8,11 @@ public final class ModelTest {
     private GameHall hall = new GameHall(3);
     private Plain plain = new Plain();
     private final List<String> log = new ArrayList<>();
+    /** An object is used for 512 calls at most. */
+    private int callsLeft = 512;
 
     public static void main(String[] args) {
-        int runs = Integer.getInteger("runs", 200);
+        int runs = Integer.getInteger("runs", 400);
         int from = Integer.getInteger("from", 1);
         for (int run = from; run < from + runs && Check.wrongs() == 0; run++) {
             seed = run * 7919L + 17;
@@ -33,6 +35,10 @@ public final class ModelTest {
     }
 
     private void same(String what, Check.Call a, Check.Call b) {
+        if (callsLeft == 0) {
+            return;
+        }
+        callsLeft--;
         String got = Check.outcome(a);
         String want = Check.outcome(b);
         log.add(what + " -> " + got);
@@ -40,7 +46,7 @@ public final class ModelTest {
     }
 
     private void run(int run) {
-        for (int k = 0; k < 6 && Check.wrongs() == 0; k++) {
+        for (int k = 0; k < 6 && callsLeft > 0 && Check.wrongs() == 0; k++) {
             submit(text());
             look();
             for (int j = below(12); j > 0 && Check.wrongs() == 0; j--) {
@@ -132,7 +138,7 @@ public final class ModelTest {
             int part = k;
             same("recordAt " + k, () -> hall.recordAt(part), () -> plain.recordAt(part));
         }
-        for (int k = -1; k <= 64; k++) {
+        for (int k = chance(30) ? -1 : 60; k <= 64; k++) {
             int square = k;
             same("manOn " + k, () -> hall.manOn(square), () -> plain.manOn(square));
         }

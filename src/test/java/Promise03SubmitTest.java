@@ -21,19 +21,12 @@ public final class Promise03SubmitTest {
         Check.end("Promise03SubmitTest");
     }
 
-    /** The fault and the number of the move with it; 0 if the text is taken. */
     private static void fault(String text, int fault, int move) {
-        GameHall hall = new GameHall(2);
-        int many = Check.submit(hall, text);
-        Check.due("fault of " + text, hall.status(1), fault);
-        Check.due("place in " + text, hall.status(2), move);
-        Check.due("submit of " + text, many, fault == 0 ? text.split(" ").length - 6 : -1);
-        Check.due("positions after " + text, hall.status(3), fault == 0 ? many + 1 : 0);
-        Check.due("taken after " + text, hall.status(13), fault == 0 ? 1 : 0);
+        Check.fault(text, fault, move);
     }
 
     private static void fault(String text, int fault) {
-        fault(text, fault, -1);
+        Check.fault(text, fault, -1);
     }
 
     private static void lengths() {

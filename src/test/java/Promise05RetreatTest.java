@@ -19,14 +19,15 @@ public final class Promise05RetreatTest {
         int many = hall.legalMany();
         String spellings = Check.spellings(hall);
         for (int k = 0; k < many; k++) {
-            hall.proceed(k);
-            Check.due("retreat " + k, hall.retreat(), true);
-            Check.due("record after " + k, Check.record(hall), text);
-            Check.due("positions after " + k, hall.status(3), 1);
+            GameHall one = Check.hall(text);
+            one.proceed(k);
+            Check.due("retreat " + k, one.retreat(), true);
+            Check.due("record after " + k, Check.record(one), text);
+            Check.due("positions after " + k, one.status(3), 1);
+            Check.due("LIST after " + k, Check.spellings(one), spellings);
+            Check.due("men's worth after " + k, one.valueAt(0), new Plainly(text).value());
+            Check.due("none is left", one.retreat(), false);
         }
-        Check.due("LIST", Check.spellings(hall), spellings);
-        Check.due("men's worth", hall.valueAt(0), new Plainly(text).value());
-        Check.due("none is left", hall.retreat(), false);
     }
 
     /** The worth of the men of a record, by its letters. */

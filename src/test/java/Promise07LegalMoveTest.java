@@ -72,8 +72,12 @@ public final class Promise07LegalMoveTest {
 
     private static void order(String text) {
         GameHall hall = Check.hall(text);
-        for (int k = 1; k < hall.legalMany(); k++) {
-            Check.due("order at " + k + " of " + text, key(hall.legalMove(k - 1)) < key(hall.legalMove(k)), true);
+        int many = hall.legalMany();
+        int before = -1;
+        for (int k = 0; k < many; k++) {
+            int key = key(hall.legalMove(k));
+            Check.due("order at " + k + " of " + text, before < key, true);
+            before = key;
         }
     }
 

@@ -98,6 +98,7 @@ public final class Promise14DistanceToMateTest {
         byte[] table = PlainEndings.table();
         GameHall hall = new GameHall(0);
         int found = 0;
+        int tried = 0;
         for (int i = 1 << 19; i < table.length; i += 23) {
             int man = i >> 13 & 63;
             int own = i >> 7 & 63;
@@ -105,6 +106,11 @@ public final class Promise14DistanceToMateTest {
             if (man == own || man == other || own == other) {
                 continue;
             }
+            if (tried % 100 == 0) {
+                // an object is used for 512 calls at most
+                hall = new GameHall(0);
+            }
+            tried++;
             String text = Plain.record(position(i, i / 23 & 1));
             if (Check.submit(hall, text) == 0) {
                 found++;

@@ -31,7 +31,7 @@ public final class RoomTest {
 
     private static void calls(GameHall hall, String text) {
         Check.submit(hall, text);
-        for (int k = 0; k < 20; k++) {
+        for (int k = 0; k < 8; k++) {
             hall.linesTo(2);
             hall.valueAt(2);
             hall.bestAt(1);

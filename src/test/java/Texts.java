@@ -13,8 +13,42 @@ final class Texts {
     private Texts() {
     }
 
-    /** The two kings, and a white man and its square, as a record; the side is w or b. */
-    static String three(String men, String side) {
-        return men + " " + side + " - - 0 1";
+    /** A right text with the sides changed: white's men are black's, and the board is turned over. */
+    static String mirrored(String text) {
+        String[] words = text.split(" ");
+        String[] ranks = words[0].split("/");
+        StringBuilder out = new StringBuilder();
+        for (int k = 7; k >= 0; k--) {
+            out.append(otherCase(ranks[k])).append(k > 0 ? "/" : " ");
+        }
+        out.append(words[1].equals("w") ? "b " : "w ");
+        String rights = otherCase(words[2]);
+        for (char sign : "KQkq-".toCharArray()) {
+            out.append(rights.indexOf(sign) >= 0 ? "" + sign : "");
+        }
+        out.append(' ').append(words[3].replace('3', '~').replace('6', '3').replace('~', '6'));
+        out.append(' ').append(words[4]).append(' ').append(words[5]);
+        for (int k = 6; k < words.length; k++) {
+            out.append(' ').append(mirroredWord(words[k]));
+        }
+        return out.toString();
+    }
+
+    /** A spelling with its ranks counted from the other side. */
+    static String mirroredWord(String word) {
+        StringBuilder out = new StringBuilder();
+        for (char sign : word.toCharArray()) {
+            out.append(sign >= '1' && sign <= '8' ? (char) ('1' + '8' - sign) : sign);
+        }
+        return out.toString();
+    }
+
+    private static String otherCase(String text) {
+        StringBuilder out = new StringBuilder();
+        for (char sign : text.toCharArray()) {
+            boolean upper = Character.isUpperCase(sign);
+            out.append(upper ? Character.toLowerCase(sign) : Character.toUpperCase(sign));
+        }
+        return out.toString();
     }
 }
