@@ -131,7 +131,7 @@ public final class EdgesTextTest {
         // the man that attacks can be taken, the line shut, the king go: +
         words("r6k/6pp/8/8/8/8/8/R6K w - - 0 1", 0, "Rxa8#");
         words("1r5k/r5pp/8/8/8/8/8/R6K b - - 0 1", 0, "Rxa1+");
-        words("7k/r5pp/8/8/8/8/8/1R5K w - - 0 1", 24, "Rb8 Rb8#");
+        words("7k/r5pp/8/8/8/8/8/1R5K w - - 0 1", 24, "Rb8 Rb8+");
         words("7k/5rpp/8/8/8/8/8/1R5K w - - 0 1", 0, "Rb8+");
     }
 

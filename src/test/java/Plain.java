@@ -636,7 +636,7 @@ final class Plain {
         return game == null || square < 0 || square > 63 ? NONE : here().men[square];
     }
 
-    private static long lines(Position p, int depth) {
+    static long lines(Position p, int depth) {
         if (depth == 0) {
             return 1;
         }
