@@ -21,6 +21,7 @@ public final class EdgesCallsTest {
         newGame();
         proceeds();
         retreats();
+        longGames();
         places();
         recordParts();
         squares();
@@ -145,12 +146,16 @@ public final class EdgesCallsTest {
 
     /** "the TAPE is empty then": whether the text was taken or refused. */
     private static void tapeIsEmptyThen() {
-        for (String text : new String[] {Texts.START, Texts.START + " e5", "x", " "}) {
+        // of the last one twenty bytes alone would have fault 3
+        String small = "k6K/8/8/8/8/8/8/8 w - - 0 1";
+        for (String text : new String[] {Texts.START, Texts.START + " e5", "x", " ", small}) {
             GameHall hall = new GameHall(0);
-            Check.submit(hall, text);
-            Check.due("bytes after " + text, hall.status(0), 0);
-            Check.due("the next text is empty", hall.submit(20), -1);
-            Check.due("fault", hall.status(1), 1);
+            for (int n = 1; n <= 20; n++) {
+                Check.submit(hall, text);
+                Check.due("bytes after " + text, hall.status(0), 0);
+                Check.due("the next text is empty", hall.submit(n), -1);
+                Check.due("fault", hall.status(1), 1);
+            }
             // nothing of the text before is left
             Check.due("another text", Check.submit(hall, "k6K/8/8/8/8/8/P7/8 w - - 0 1"), 0);
             Check.due("record", Check.record(hall), "k6K/8/8/8/8/8/P7/8 w - - 0 1");
@@ -210,6 +215,19 @@ public final class EdgesCallsTest {
         Check.due("taken", hall.status(13), 3);
         Check.due("its moves can be taken back", hall.retreat() && hall.retreat(), true);
         Check.due("and no more", hall.retreat(), false);
+        // what is worked out of the men is that of the new ones
+        for (String text : new String[] {Texts.START, "7k/8/8/8/8/8/8/KQ6 w - - 0 1", "x", "7k/8/8/8/8/8/8/KR6 b - - 0 1",
+            "kr6/8/8/8/8/8/8/7K w - - 0 1", "4k3/8/8/8/8/8/8/4K2R w K - 0 1", "4k3/8/8/3pP3/8/8/8/4K3 w - d6 0 1"}) {
+            if (Check.submit(hall, text) == 0) {
+                GameHall first = Check.hall(text);
+                Check.due("VALUE of " + text, hall.valueAt(0), first.valueAt(0));
+                Check.due("VALUE of " + text, hall.valueAt(2), first.valueAt(2));
+                Check.due("DISTANCE of " + text, hall.distanceToMate(), first.distanceToMate());
+                Check.due("rights of " + text, hall.status(6), first.status(6));
+                Check.due("PASSANT of " + text, hall.status(7), first.status(7));
+                Check.due("men of " + text, hall.status(10), first.status(10));
+            }
+        }
         // a game that has ended is followed by one that has not
         Check.submit(hall, "4k3/8/8/8/8/8/8/4K3 w - - 0 1");
         Check.dueThrow("ended", STATE, () -> hall.proceed(0));
@@ -292,6 +310,27 @@ public final class EdgesCallsTest {
             Check.due("as before the move", Check.state(hall), Check.state(Check.hall(before)));
             Check.due("the same move again", hall.proceed(Check.place(hall, text.substring(before.length() + 1))), verdict);
         }
+    }
+
+    /** Of 600 moves 300 are taken back; and a text of 600 moves follows one that was refused behind as many. */
+    private static void longGames() {
+        String text = LongGame.text(600);
+        GameHall hall = Check.hall(text);
+        for (int k = 0; k < 300; k++) {
+            Check.due("retreat", hall.retreat(), true);
+        }
+        GameHall half = Check.hall(LongGame.text(300));
+        Check.due("as behind 300 moves", Check.record(hall), Check.record(half));
+        Check.due("LIST", Check.spellings(hall), Check.spellings(half));
+        for (int which = 3; which < 13; which++) {
+            Check.due("status " + which, hall.status(which), half.status(which));
+        }
+        GameHall twice = new GameHall(0);
+        Check.due("refused", Check.submit(twice, text + " e4"), -1);
+        Check.due("the same again", Check.submit(twice, text + " e4"), -1);
+        Check.due("fault", twice.status(1) + " " + twice.status(2), "20 600");
+        Check.due("taken", Check.submit(twice, text), 600);
+        Check.due("retreat", twice.retreat() && twice.proceed(0) >= 0, true);
     }
 
     /** legalMany: "0 without a game"; legalMove and spelling: "IndexOutOfBoundsException if there is none such." */
