@@ -129,10 +129,11 @@ final class Check {
     static String unpack(long packed) {
         StringBuilder text = new StringBuilder();
         for (int shift = 56; shift >= 0; shift -= 8) {
-            char sign = (char) (packed >>> shift & 255);
-            if (sign != 0) {
-                text.append(sign);
-            }
+            text.append((char) (packed >>> shift & 255));
+        }
+        // only those behind the text are none of it: a 0 ahead or inside is left, so that it is seen
+        while (text.length() > 0 && text.charAt(text.length() - 1) == 0) {
+            text.setLength(text.length() - 1);
         }
         return text.toString();
     }

@@ -1,3 +1,6 @@
+import java.util.ArrayList;
+import java.util.List;
+
 /** The edges of a GAME: THE SAME, COUNT, DEAD and the VERDICT; each sentence of the document has a method here. */
 public final class EdgesGameTest {
     private static final String ROOK = "6k1/8/8/8/8/8/8/K6R w - - ";
@@ -5,6 +8,7 @@ public final class EdgesGameTest {
 
     public static void main(String[] args) {
         same();
+        otherMen();
         otherSide();
         otherRights();
         passingFile();
@@ -45,10 +49,120 @@ public final class EdgesGameTest {
         both("6k1/8/8/8/8/8/P7/K6R w - - 0 1 Rh2 Kf8 a3 Kg8 Rh1 Kf8 Rh2 Kg8", 0, 1, 1, 1, 1, 1, 1, 1, 2, 2);
     }
 
+    /** Two men that have changed their squares make another position, whatever their kinds and sides are. */
+    private static void otherMen() {
+        for (int first = 2; first <= 5; first++) {
+            for (int second = first + 1; second <= 5; second++) {
+                changed(first, second);
+            }
+        }
+        both("7k/6r1/8/8/8/8/1R6/K7 w - - 0 1 Rb4 Rg5 Rf4 Rc5 Rf7 Rc2 Rg7 Rb2", 6,
+                0, 1, 2, 3, 4, 5, 6, 7, 8);
+        both("7k/6n1/8/8/8/8/1N6/K7 w - - 0 1 Nd3 Nf5 Nf4 Nd4 Nh5 Nb3+ Ka2 Nc1+ Ka1 Nd3 Ng7 Nb2", 6,
+                0, 1, 2, 3, 4, 5, 6, 7, 8, 9, 10, 11, 12);
+    }
+
+    /** White's two men go to one another's square, step by step, while black's king waits; then back again. */
+    private static void changed(int first, int second) {
+        Plain.Position p = new Plain.Position();
+        p.men[0] = 6;
+        p.men[63] = 12;
+        p.men[33] = first;
+        p.men[35] = second;
+        List<Integer> road = road(first, second);
+        List<Integer> back = new ArrayList<>();
+        for (int move : road) {
+            back.add(0, move / 64 + 64 * (move % 64));
+        }
+        String text = Plain.record(p);
+        for (int turn = 0; turn <= 56; turn += 56) {
+            GameHall hall = Check.hall(turn == 0 ? text : Texts.mirrored(text));
+            walk(hall, road, turn);
+            int last = hall.status(3) - 1;
+            Check.due("squares changed by " + first + " and " + second, hall.historyOf(last, 6), last);
+            Check.due("COUNT of that", hall.historyOf(last, 0), 1);
+            walk(hall, back, turn);
+            Check.due("and back again", hall.historyOf(hall.status(3) - 1, 6), 0);
+            Check.due("COUNT of that", hall.historyOf(hall.status(3) - 1, 0), 2);
+        }
+    }
+
+    private static void walk(GameHall hall, List<Integer> road, int turn) {
+        int king = 63;
+        for (int move : road) {
+            go(hall, move % 64 ^ turn, move / 64 ^ turn);
+            go(hall, king ^ turn, king ^ 8 ^ turn);
+            king ^= 8;
+        }
+    }
+
+    private static void go(GameHall hall, int from, int to) {
+        int many = hall.legalMany();
+        for (int k = 0; k < many; k++) {
+            if (hall.legalMove(k) == from + 64 * to) {
+                hall.proceed(k);
+                return;
+            }
+        }
+        throw new IllegalStateException("no move from " + from + " to " + to);
+    }
+
+    /** The shortest way of an even number of moves, on which h8 and h7 are never attacked. */
+    private static List<Integer> road(int first, int second) {
+        int[] before = new int[8192];
+        int[] move = new int[8192];
+        List<Integer> queue = new ArrayList<>(List.of(33 + 64 * 35));
+        int goal = 35 + 64 * 33;
+        before[33 + 64 * 35] = -1;
+        for (int k = 0; k < queue.size() && before[goal] == 0; k++) {
+            int state = queue.get(k);
+            for (int step = 0; step < 128; step++) {
+                int from = step < 64 ? state % 64 : state / 64 % 64;
+                int to = step % 64;
+                int next = (step < 64 ? to + 64 * (state / 64 % 64) : state % 64 + 64 * to) + (state < 4096 ? 4096 : 0);
+                if (before[next] == 0 && isStep(state, from, to, first, second) && isQuiet(next, first, second)) {
+                    before[next] = state + 1;
+                    move[next] = from + 64 * to;
+                    queue.add(next);
+                }
+            }
+        }
+        List<Integer> road = new ArrayList<>();
+        for (int state = goal; before[state] > 0; state = before[state] - 1) {
+            road.add(0, move[state]);
+        }
+        return road;
+    }
+
+    private static Plain.Position stand(int state, int first, int second) {
+        Plain.Position p = new Plain.Position();
+        p.men[0] = 6;
+        p.men[state % 64] = first;
+        p.men[state / 64 % 64] = second;
+        return p;
+    }
+
+    private static boolean isStep(int state, int from, int to, int first, int second) {
+        Plain.Position p = stand(state, first, second);
+        boolean kings = to == 63 || to == 55 || to == 62 || to == 54 || to == 46 || to == 47;
+        return p.men[to] == 0 && !kings && Plain.attacks(p, from, to);
+    }
+
+    private static boolean isQuiet(int state, int first, int second) {
+        Plain.Position p = stand(state, first, second);
+        return !Plain.attacked(p, 63, 0) && !Plain.attacked(p, 55, 0);
+    }
+
     /** "... SIDE": the same squares with the other side to move are another position. */
     private static void otherSide() {
         both(ROOK + "0 1 Rh3 Kf8 Rh2 Kg8 Rh1 Kf8", 0, 1, 1, 1, 1, 1, 1, 1);
         both("6k1/8/8/8/8/8/8/K6R w - - 0 1 Rg1+ Kf8 Rh1 Kg7 Rh2 Kg8 Rh1", 6, 0, 1, 2, 3, 4, 5, 6, 7);
+        for (String rights : new String[] {"-", "K"}) {
+            both("4k3/8/8/8/8/8/8/4K2R w " + rights + " - 0 1 Rg1 Kd8 Rf1 Ke8 Rh1", 6, 0, 1, 2, 3, 4, 5);
+        }
+        for (String rights : new String[] {"-", "Q"}) {
+            both("4k3/8/8/8/8/8/8/R3K3 w " + rights + " - 0 1 Rb1 Kf8 Rc1 Ke8 Ra1", 6, 0, 1, 2, 3, 4, 5);
+        }
     }
 
     /** "... and RIGHTS are": each of the four. */
@@ -81,6 +195,15 @@ public final class EdgesGameTest {
         both("4k3/8/8/3p4/8/8/8/4K3 w - d6 0 1", 7, -1);
         both("4k3/8/8/pP6/8/8/8/4K3 w - a6 0 1", 7, 0);
         both("4k3/8/8/6Pp/8/8/8/4K3 w - h6 0 1", 7, 7);
+        // each file, with all rights there
+        for (int file = 0; file < 8; file++) {
+            Plain.Position p = Plain.read("rn2k2r/8/8/8/8/8/8/RN2K2R w KQkq - 0 1");
+            p.men[32 + file] = 7;
+            p.men[file == 0 ? 33 : 31 + file] = 1;
+            p.passant = file;
+            both(Plain.record(p), 7, file);
+            both(Plain.record(p) + " Nc3 Nc6 Nb1 Nb8".repeat(2), 6, 0, 1, 2, 3, 4, 1, 2, 3, 4);
+        }
         // one of two pawns is pinned: the other one takes
         both("4k3/4r3/8/2PpP3/8/8/8/4K3 w - d6 0 1", 7, 3);
         both(Texts.START + " a4 h5 a5 b5", 7, -1, -1, -1, -1, 1);

@@ -94,7 +94,8 @@ public final class EdgesRecordTest {
     private static void eightSquares() {
         String[] right = {"8", "p7", "7p", "pp6", "p1p1p1p1", "1p1p1p1p", "3p4", "pppp4", "1p6"};
         String[] wrong = {"", "7", "9", "0", "p6", "6p", "p8", "8p", "p7p", "1p7", "7pp", "ppppppppp", "ppppppp",
-            "p1p1p1p", "p1p1p1p1p", "p1p1p1p2", "4p4", "2p4", "p71"};
+            "p1p1p1p", "p1p1p1p1p", "p1p1p1p2", "4p4", "2p4", "p71", "0p7", "p0p6", "3p0p3", "p7p0", "9p", "p9",
+            " p6", "p p5", "7 ", " 7", "pppppp p", "-p6", "\0p6"};
         for (int rank = 1; rank < 7; rank++) {
             for (String one : right) {
                 Check.fault(withRank(rank, one), 0);
