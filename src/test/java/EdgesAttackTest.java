@@ -1,6 +1,8 @@
+import java.util.List;
+
 /** ATTACKED, at every edge of the board: every man from every square to every square of the other king. */
 public final class EdgesAttackTest {
-    private static final int TEXTS_AN_OBJECT = 80;
+    private static final int TEXTS_AN_OBJECT = 30;
 
     private static GameHall hall;
     private static int read = 0;
@@ -13,6 +15,7 @@ public final class EdgesAttackTest {
                     if (from != to) {
                         alone(kind, from, to);
                         shut(kind, from, to);
+                        answers(kind, from, to);
                     }
                 }
             }
@@ -89,6 +92,30 @@ public final class EdgesAttackTest {
         }
         if (isBoard(from % 8 - files, from / 8 - ranks)) {
             between(kind, from, to, from - step, 11);
+        }
+    }
+
+    /**
+     * "It is LEGAL if the king is not ATTACKED when it has been made": from whatever square it is attacked, a knight
+     * that stands off the king's lines may only take the man or go between.
+     */
+    private static void answers(int kind, int from, int to) {
+        if (kind == 6 || !attacks(kind, from, to)) {
+            return;
+        }
+        Plain.Position p = place(kind, from, to);
+        int square = 63;
+        while (square >= 0 && (p.men[square] != 0 || attacks(5, square, to) || attacks(5, square, from))) {
+            square--;
+        }
+        p.side = 1;
+        p.men[square] = 8;
+        fault(p, 0);
+        String text = Plain.record(p);
+        List<Integer> due = Plain.list(p);
+        Check.due("legalMany of " + text, hall.legalMany(), due.size());
+        for (int k = 0; k < due.size(); k++) {
+            Check.due("legalMove " + k + " of " + text, hall.legalMove(k), due.get(k));
         }
     }
 

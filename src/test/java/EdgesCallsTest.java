@@ -383,6 +383,22 @@ public final class EdgesCallsTest {
                 Check.due("recordAt " + k, hall.recordAt(k), 0);
             }
         }
+        // nothing of a longer record that was told before is left behind a shorter one
+        String[] shorter = {"r1b1k2r/p1p1p1p1/1p1p4/n1n1n1n1/N1N1N1N1/1P1P4/P1P1P1P1/R1B1K2R w KQkq - 999 9999",
+            "r1b1k2r/p1p1p1p1/1p1p1p2/8/8/1P1P1P2/P1P1P1P1/R3K2R b KQkq - 10 1000", Texts.START,
+            "4k3/8/8/8/8/8/P7/4K3 w - - 100 10", "4k3/8/8/8/8/8/P7/4K3 w - - 10 10", "4k3/8/8/8/8/8/P7/4K3 w - - 0 1"};
+        GameHall again = new GameHall(0);
+        for (String text : shorter) {
+            Check.due("submit of " + text, Check.submit(again, text), 0);
+            for (int k = 0; k < 12; k++) {
+                String part = 8 * k >= text.length() ? "" : text.substring(8 * k, Math.min(text.length(), 8 * k + 8));
+                Check.due("recordAt " + k + " of " + text, again.recordAt(k), Plain.pack(part));
+            }
+        }
+        GameHall taking = Check.hall("r3k2r/8/8/8/8/8/8/R3K2R w KQkq - 99 10");
+        Check.due("record", Check.record(taking), "r3k2r/8/8/8/8/8/8/R3K2R w KQkq - 99 10");
+        taking.proceed(Check.place(taking, "Rxa8+"));
+        Check.due("record", Check.record(taking), "R3k2r/8/8/8/8/8/8/4K2R b Kk - 0 10");
         GameHall late = Check.hall("6k1/8/8/8/8/8/8/K6R b - - 148 9999");
         late.proceed(Check.place(late, "Kf7"));
         Check.due("NUMBER", Check.record(late), "8/5k2/8/8/8/8/8/K6R w - - 149 10000");

@@ -242,18 +242,11 @@ public final class EdgesGameTest {
         for (String man : new String[] {"P", "R", "Q", "p", "r", "q"}) {
             verdict("4k3/8/8/8/8/8/" + man + "7/4K3 w - - 0 1", 0);
         }
-        // "both on squares of one colour ((file + rank) of both even, or both odd)": all pairs of two ranks
-        for (int white = 16; white < 24; white++) {
-            for (int black = 32; black < 48; black++) {
-                Plain.Position p = new Plain.Position();
-                p.men[0] = 6;
-                p.men[63] = 12;
-                p.men[white] = 3;
-                p.men[black] = 9;
-                boolean one = (white % 8 + white / 8 + black % 8 + black / 8) % 2 == 0;
-                p.side = Plain.check(p, 1) ? 1 : 0;
-                if (!Plain.check(p, 0) || !Plain.check(p, 1)) {
-                    verdict(Plain.record(p), one ? 3 : 0);
+        // "both on squares of one colour ((file + rank) of both even, or both odd)": all pairs of squares
+        for (int white = 0; white < 64; white++) {
+            for (int black = 0; black < 64; black++) {
+                if (white != black) {
+                    bishops(white, black);
                 }
             }
         }
@@ -269,6 +262,25 @@ public final class EdgesGameTest {
         verdict("4k3/8/8/8/8/8/B1b1b3/4K3 w - - 0 1", 0);
         verdict("4k3/8/8/8/8/8/B1bP4/4K3 w - - 0 1", 0);
         verdict("4k3/8/8/8/8/8/B2P4/4K3 w - - 0 1", 0);
+    }
+
+    /** A bishop of each side, and the kings on the first squares where neither is attacked. */
+    private static void bishops(int white, int black) {
+        for (int own = 0; own < 64; own++) {
+            Plain.Position p = new Plain.Position();
+            p.men[own] = 6;
+            p.men[63 - own] = 12;
+            p.men[white] = 3;
+            p.men[black] = 9;
+            boolean free = own != white && own != black && 63 - own != white && 63 - own != black;
+            boolean near = Plain.attacks(p, own, 63 - own);
+            if (free && !near && !Plain.check(p, 0) && !Plain.check(p, 1)) {
+                boolean one = (white % 8 + white / 8 + black % 8 + black / 8) % 2 == 0;
+                verdict(Plain.record(p), one ? 3 : 0);
+                return;
+            }
+        }
+        throw new IllegalStateException("no squares for the kings beside " + white + " and " + black);
     }
 
     /** "5 the CLOCK is 150 or more; ... the CLOCK 100 or more; ... 7 for the CLOCK; 0 it goes on". */

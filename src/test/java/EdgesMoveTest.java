@@ -156,6 +156,10 @@ public final class EdgesMoveTest {
         can("7k/8/8/PpP5/8/8/8/7K w - - 0 1", "a5", "a6");
         can("7k/8/8/pPp5/8/8/8/7K w - a6 0 1", "b5", "a6 b6");
         can("7k/8/8/pPp5/8/8/8/7K w - c6 0 1", "b5", "b6 c6");
+        // without a PASSANT none is taken so, wherever it stands
+        can("7k/8/7p/8/6P1/8/8/K7 w - - 0 1", "g4", "g5");
+        can("7k/8/8/6Pp/8/8/8/K7 w - - 0 1", "g5", "g6");
+        can("7k/8/8/pP6/8/8/8/7K w - - 0 1", "b5", "b6");
         // only beside it and from that rank
         can("7k/8/8/1p1P4/8/8/8/7K w - b6 0 1", "d5", "d6");
         can("7k/8/8/1p6/2P5/8/8/7K w - b6 0 1", "c4", "b5 c5");
@@ -294,6 +298,13 @@ public final class EdgesMoveTest {
         can("8/8/8/K1pP3n/8/8/8/7k w - c6 0 1", "d5", "c6 d6");
         can("8/1K6/8/3pP3/8/5b2/8/7k w - d6 0 1", "e5", "e6");
         can("8/1K6/8/3pP3/8/5n2/8/7k w - d6 0 1", "e5", "d6 e6");
+        // with a PASSANT this holds for the other men as well, and for the king
+        can("4r2k/8/8/1pP5/8/8/4N3/4K3 w - b6 0 1", "e2", "");
+        can("4r2k/8/8/1pP5/8/8/4N3/4K3 w - b6 0 1", "c5", "b6 c6");
+        can("7k/8/8/1pP5/7b/8/5B2/4K3 w - b6 0 1", "f2", "g3 h4");
+        can("3r3k/8/8/1pP5/8/8/8/4K3 w - b6 0 1", "e1", "e2 f1 f2");
+        can("4r2k/8/8/1pP5/8/8/8/4K2N w - b6 0 1", "h1", "");
+        can("4r2k/8/8/1pP5/8/8/8/4K2N w - b6 0 1", "c5", "");
         // the pawn that gives the check is taken in passing
         can("7k/8/8/3pP3/2K5/8/8/8 w - d6 0 1", "e5", "d6");
         can("7k/8/8/3pP3/2K5/8/8/8 w - - 0 1", "e5", "");

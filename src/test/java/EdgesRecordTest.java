@@ -105,7 +105,7 @@ public final class EdgesRecordTest {
             }
         }
         // the first and the last of the ranks, where a king stands
-        for (String one : new String[] {"4k2", "4k4", "3k3", "5k3", "4k", "k8", "kk7", "8k", "4k3p"}) {
+        for (String one : new String[] {"4k2", "4k4", "3k3", "5k3", "4k", "k8", "kk7", "8k", "4k3p", "k8p", "4k4p", "7kk1p"}) {
             men(one + "/8/8/8/8/8/8/4K3", 1);
             men("4k3/8/8/8/8/8/8/" + one.replace('k', 'K'), 1);
         }
